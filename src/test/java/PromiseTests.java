@@ -1,22 +1,9 @@
-import java.util.ArrayList;
-import java.util.List;
-
 /**
  * One method for each promise of the document: ordinary inputs, the edges that it names, and each refusal. Answers are
  * written out, worked out by hand from the document. Each refusal is made on a net of its own, of which is looked at
  * that nothing changed but how many refusals there were.
  */
-public final class PromiseTests {
-    private static final int LOW = Integer.MIN_VALUE;
-    private static final int HIGH = Integer.MAX_VALUE;
-
-    private static String promise = "";
-    private static int checks = 0;
-    private static int wrong = 0;
-
-    private interface Call {
-        long on(NetShapes x);
-    }
+public final class PromiseTests extends NetTest {
 
     public static void main(String[] args) {
         newObject();
@@ -49,115 +36,11 @@ public final class PromiseTests {
         lose();
         far();
         status();
-        System.out.println(checks + " checks, " + wrong + " answers are not as due");
-        if (wrong != 0) {
-            System.exit(1);
-        }
+        end();
     }
 
     private static void begin(int number, String name) {
-        promise = "promise " + number + " (" + name + ")";
-    }
-
-    private static void due(String what, long got, long want) {
-        checks++;
-        if (got != want) {
-            wrong++;
-            System.out.println(promise + ": " + what + " answered " + got + ", due is " + want);
-        }
-    }
-
-    /** A net of n posts with links told as first post, second post, kind, time. */
-    private static NetShapes net(int n, int... links) {
-        NetShapes x = new NetShapes();
-        x.posts(n);
-        for (int i = 0; i + 3 < links.length; i += 4) {
-            x.link(links[i], links[i + 1], links[i + 2], links[i + 3]);
-        }
-        return x;
-    }
-
-    /** Links of kind 0 and time 0, told as first post, second post. */
-    private static NetShapes plain(int n, int... links) {
-        NetShapes x = new NetShapes();
-        x.posts(n);
-        for (int i = 0; i + 1 < links.length; i += 2) {
-            x.link(links[i], links[i + 1], 0, 0);
-        }
-        return x;
-    }
-
-    private static NetShapes full(int n) {
-        NetShapes x = new NetShapes();
-        x.posts(n);
-        for (int a = 0; a < n; a++) {
-            for (int b = 0; b < n; b++) {
-                if (a != b) {
-                    x.link(a, b, 0, 0);
-                }
-            }
-        }
-        return x;
-    }
-
-    /** The net on which refusals are made: 0 to 1, 1 to 2, 2 to 0, 3 to 4; sheet 0 holds it, sheets 1 to 3 nothing. */
-    private static NetShapes fixture() {
-        NetShapes x = net(5, 0, 1, 0, 7, 1, 2, 1, 8, 2, 0, 0, 9, 3, 4, 1, 1000);
-        x.keep(0);
-        x.seed(77);
-        return x;
-    }
-
-    private static String look(NetShapes x) {
-        List<Long> seen = new ArrayList<>();
-        for (int what = 0; what <= 6; what++) {
-            seen.add((long) x.status(what));
-        }
-        int links = x.status(1);
-        for (int i = 0; i < links; i++) {
-            int a = x.at(i, 0);
-            int b = x.at(i, 1);
-            seen.add((long) a);
-            seen.add((long) b);
-            seen.add((long) x.linkOf(a, b, 1));
-            seen.add((long) x.linkOf(a, b, 2));
-        }
-        int seed = x.seed(0);
-        x.seed(seed);
-        seen.add((long) seed);
-        if (x.status(4) > 0) {
-            seen.add((long) x.far(0));
-        }
-        return seen.toString();
-    }
-
-    private static void refused(int number, String what, Call call) {
-        refusedOn(fixture(), number, number, what, call);
-    }
-
-    private static void refusedOn(NetShapes x, int number, int answer, String what, Call call) {
-        String before = look(x);
-        int[] counts = refusals(x);
-        due(what, call.on(x), answer);
-        counts[-number]++;
-        int[] now = refusals(x);
-        for (int i = 1; i <= 6; i++) {
-            due("refusals -" + i + " after " + what, now[i], counts[i]);
-        }
-        checks++;
-        String after = look(x);
-        if (!before.equals(after)) {
-            wrong++;
-            System.out.println(promise + ": " + what + " changed " + before + " to " + after);
-        }
-    }
-
-    private static int[] refusals(NetShapes x) {
-        int[] counts = new int[7];
-        for (int i = 1; i <= 6; i++) {
-            counts[i] = x.status(10 + i);
-        }
-        return counts;
+        under("promise " + number + " (" + name + ")");
     }
 
     private static void newObject() {
@@ -293,7 +176,7 @@ public final class PromiseTests {
         refused(-1, "link ahead of what", y -> y.at(4, 2));
         refused(-2, "what above", y -> y.at(0, 2));
         refused(-2, "what below", y -> y.at(3, -1));
-        refusedOn(plain(3), -1, -1, "no links at all", y -> y.at(0, 0));
+        refusedOn(() -> plain(3), -1, -1, "no links at all", y -> y.at(0, 0));
     }
 
     private static void shape() {
@@ -458,13 +341,7 @@ public final class PromiseTests {
         due("all", full(16).roles(), 1);
         due("one link", plain(3, 0, 1).roles(), 3);
         due("two to one", plain(3, 0, 1, 2, 1).roles(), 2);
-        NetShapes row = new NetShapes();
-        row.posts(16);
-        for (int a = 0; a < 15; a++) {
-            for (int b = a + 1; b < 16; b++) {
-                row.link(a, b, 0, 0);
-            }
-        }
+        NetShapes row = downward(16, 0);
         due("each its own", row.roles(), 16);
         due("the last one's", row.role(15), 15);
     }
@@ -536,11 +413,11 @@ public final class PromiseTests {
         refused(-1, "far", z -> z.swap(HIGH, LOW));
         refused(-3, "first's end is second's beginning", z -> z.swap(0, 1));
         refused(-3, "first's beginning is second's end", z -> z.swap(1, 0));
-        refusedOn(plain(4, 0, 1, 0, 2), -3, -3, "one beginning", z -> z.swap(0, 1));
-        refusedOn(plain(4, 0, 1, 2, 1), -3, -3, "one end", z -> z.swap(0, 1));
-        refusedOn(plain(4, 0, 1, 2, 3, 0, 3), -3, -3, "a to d is there", z -> z.swap(0, 2));
-        refusedOn(plain(4, 0, 1, 2, 3, 2, 1), -3, -3, "c to b is there", z -> z.swap(0, 2));
-        refusedOn(plain(4, 0, 1, 1, 0), -3, -3, "there and back", z -> z.swap(0, 1));
+        refusedOn(() -> plain(4, 0, 1, 0, 2), -3, -3, "one beginning", z -> z.swap(0, 1));
+        refusedOn(() -> plain(4, 0, 1, 2, 1), -3, -3, "one end", z -> z.swap(0, 1));
+        refusedOn(() -> plain(4, 0, 1, 2, 3, 0, 3), -3, -3, "a to d is there", z -> z.swap(0, 2));
+        refusedOn(() -> plain(4, 0, 1, 2, 3, 2, 1), -3, -3, "c to b is there", z -> z.swap(0, 2));
+        refusedOn(() -> plain(4, 0, 1, 1, 0), -3, -3, "there and back", z -> z.swap(0, 1));
     }
 
     private static void mix() {
@@ -573,11 +450,7 @@ public final class PromiseTests {
             many.link(a, (a + 3) % 16, a & 1, a);
         }
         int done = many.mix(500);
-        checks++;
-        if (done < 1 || done > 500) {
-            wrong++;
-            System.out.println(promise + ": mix(500) answered " + done);
-        }
+        holds("1 to 500 swaps", done >= 1 && done <= 500);
         due("links stay", many.status(1), 16);
         due("kinds stay", many.status(2), 8);
         due("degrees stay", many.status(5), 1);
@@ -585,10 +458,10 @@ public final class PromiseTests {
         refused(-4, "below", y -> y.mix(-1));
         refused(-4, "far below", y -> y.mix(LOW));
         refused(-6, "above", y -> y.mix(501));
-        refusedOn(plain(4, 0, 1), -3, -3, "one link", y -> y.mix(1));
-        refusedOn(plain(4), -3, -3, "no link, none asked", y -> y.mix(0));
-        refusedOn(plain(4), -4, -4, "below ahead of too few", y -> y.mix(-1));
-        refusedOn(plain(4), -6, -6, "above ahead of too few", y -> y.mix(501));
+        refusedOn(() -> plain(4, 0, 1), -3, -3, "one link", y -> y.mix(1));
+        refusedOn(() -> plain(4), -3, -3, "no link, none asked", y -> y.mix(0));
+        refusedOn(() -> plain(4), -4, -4, "below ahead of too few", y -> y.mix(-1));
+        refusedOn(() -> plain(4), -6, -6, "above ahead of too few", y -> y.mix(501));
     }
 
     private static void mean() {
@@ -612,13 +485,7 @@ public final class PromiseTests {
         due("all below", all.mean(15, 1), 1);
         due("less than all", all.mean(14, 0), 0);
         due("empty", plain(16).mean(0, 0), 560);
-        NetShapes half = new NetShapes();
-        half.posts(16);
-        for (int a = 0; a < 16; a++) {
-            for (int b = 0; b < a; b++) {
-                half.link(a, b, 0, 0);
-            }
-        }
+        NetShapes half = downward(16, 0);
         // 560 times 6 times (120 119 118) squared by (240 239 238 237 236 235), without a common divisor.
         due("long one above", half.mean(9, 0), 47181120L);
         due("long one below", half.mean(9, 1), 887407L);
@@ -639,9 +506,9 @@ public final class PromiseTests {
         NetShapes four = plain(4, 0, 1);
         due("at 2", four.more(1), 0);
         due("at 2 of none", four.more(0), 0);
-        refusedOn(fixture(), -1, 2000000001, "below", y -> y.more(-1));
-        refusedOn(fixture(), -1, 2000000001, "above", y -> y.more(16));
-        refusedOn(fixture(), -1, 2000000001, "far", y -> y.more(LOW));
+        refusedOn(NetTest::fixture, -1, 2000000001, "below", y -> y.more(-1));
+        refusedOn(NetTest::fixture, -1, 2000000001, "above", y -> y.more(16));
+        refusedOn(NetTest::fixture, -1, 2000000001, "far", y -> y.more(LOW));
     }
 
     private static void chains() {
@@ -752,13 +619,7 @@ public final class PromiseTests {
         NetShapes ways = net(3, 0, 1, 1, 0, 1, 0, 0, 0);
         due("both ways are one two", ways.sides(0), 0);
         due("against by one way", ways.sides(1), 2);
-        NetShapes great = new NetShapes();
-        great.posts(16);
-        for (int a = 0; a < 16; a++) {
-            for (int b = a + 1; b < 16; b++) {
-                great.link(b, a, 1, 0);
-            }
-        }
+        NetShapes great = downward(16, 1);
         due("sixteen, all against", great.sides(0), 56);
         due("the first eight but one, and one", great.sides(1), 510);
         NetShapes last = net(16, 15, 0, 1, 0);
