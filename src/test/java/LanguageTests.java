@@ -8,7 +8,9 @@ import java.nio.file.Files;
 import java.nio.file.Path;
 import java.util.Arrays;
 import java.util.List;
+import java.util.Map;
 import java.util.Set;
+import java.util.TreeMap;
 import java.util.TreeSet;
 import java.util.regex.Matcher;
 import java.util.regex.Pattern;
@@ -35,6 +37,9 @@ public final class LanguageTests {
         signs(text);
         sizes();
         methodLengths(text);
+        Map<String, String> bodies = methodBodies(withoutComments(text));
+        callDepths(bodies);
+        objectsInConstructorsAlone(bodies);
         System.out.println(wrong == 0 ? "the rules looked at are kept" : wrong + " rules are broken");
         if (wrong != 0) {
             System.exit(1);
@@ -162,6 +167,58 @@ public final class LanguageTests {
                 }
                 must(end - i < 60, "11: a long method at line " + (i + 1));
             }
+        }
+    }
+
+    /** By a method's name the texts of all methods that bear it; constructors bear the names of their classes. */
+    private static Map<String, String> methodBodies(String code) {
+        Map<String, String> bodies = new TreeMap<>();
+        String head = "^( {4}| {8})(?! |if|for|while|switch|else|do\\b)[^\n=;(]*?(\\w+)\\([^\n;]*\\) \\{$";
+        Pattern method = Pattern.compile("(?ms)" + head + "(.*?)^\\1\\}$");
+        Matcher matcher = method.matcher(code);
+        while (matcher.find()) {
+            bodies.merge(matcher.group(2), matcher.group(3), String::concat);
+        }
+        Set<String> missed = new TreeSet<>();
+        for (Class<?> type : allClasses()) {
+            for (Method declared : type.getDeclaredMethods()) {
+                if (!declared.isSynthetic() && !bodies.containsKey(declared.getName())) {
+                    missed.add(declared.getName());
+                }
+            }
+        }
+        must(missed.isEmpty(), "methods whose text this test does not find: " + missed);
+        return bodies;
+    }
+
+    private static void callDepths(Map<String, String> bodies) {
+        for (String name : bodies.keySet()) {
+            int depth = depthOf(name, bodies, 0);
+            must(depth <= 8, "8, 11: calls go more than eight deep from " + name);
+        }
+    }
+
+    /** A method that calls itself, by others too, comes out deeper than any bound. */
+    private static int depthOf(String name, Map<String, String> bodies, int above) {
+        int deepest = 0;
+        Matcher call = Pattern.compile("\\b(\\w+)\\(").matcher(bodies.get(name));
+        while (above < 20 && call.find()) {
+            if (bodies.containsKey(call.group(1))) {
+                deepest = Math.max(deepest, depthOf(call.group(1), bodies, above + 1));
+            }
+        }
+        return above < 20 ? deepest + 1 : 100;
+    }
+
+    /** Not LANGUAGE.md's own rule but how the class keeps rule 12: no call makes an object. */
+    private static void objectsInConstructorsAlone(Map<String, String> bodies) {
+        Set<String> classes = new TreeSet<>();
+        for (Class<?> type : allClasses()) {
+            classes.add(type.getSimpleName());
+        }
+        for (Map.Entry<String, String> body : bodies.entrySet()) {
+            boolean makes = Pattern.compile("\\bnew\\b|\\.clone\\(|copyOf").matcher(body.getValue()).find();
+            must(classes.contains(body.getKey()) || !makes, "12: " + body.getKey() + " makes an object");
         }
     }
 
